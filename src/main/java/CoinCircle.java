@@ -1779,7 +1779,9 @@ public final class CoinCircle {
 
         private void begin(Circle circle, int coin) {
             people = circle.society.counts[PERSON];
-            Arrays.fill(reached, 0);
+            for (int k = 0; k < people << people && k < STATES; k++) {
+                reached[k] = 0;
+            }
             Arrays.fill(verdicts, UNASKED);
             queueLength = 0;
             int holder = circle.ledger.holders[coin];
