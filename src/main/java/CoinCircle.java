@@ -574,8 +574,8 @@ public final class CoinCircle {
     private static final int NOTHING_KNOWN = 5;
 
     private static final String SIGNS = ";[]()<>=+-*/%,";
-    private static final String OWN_WORDS = "person rank coin worth of knows goods by snub fades vogue presents price "
-        + "other circle day holds or and not all min max ";
+    private static final String OWN_WORDS =
+        "person rank coin worth of knows goods by snub fades vogue presents price other circle day holds or and not all min max ";
     private static final int OWN_WORD_COUNT = 23;
 
     // the OWN WORDS by their places in OWN_WORDS
@@ -884,7 +884,7 @@ public final class CoinCircle {
         }
 
         boolean isFull(int sort) {
-            return counts[sort] >= most(sort);
+            return sort < 0 || sort >= SORTS || counts[sort] >= most(sort);
         }
 
         boolean isThere(int sort, int which) {
@@ -896,7 +896,7 @@ public final class CoinCircle {
         }
 
         int find(int sort, int name) {
-            for (int which = 0; which < counts[sort]; which++) {
+            for (int which = 0; which < ROW && isThere(sort, which); which++) {
                 if (names[sort * ROW + which] == name) {
                     return which;
                 }
@@ -908,8 +908,11 @@ public final class CoinCircle {
             return find(PERSON, name) != NONE || find(COIN, name) != NONE || find(GOODS, name) != NONE;
         }
 
-        /** Gives the NAME to the next one of its sort, where there is room: which one that is. */
+        /** Gives the NAME to the next one of its sort: which one that is; NONE without room. */
         int give(int sort, int name) {
+            if (isFull(sort)) {
+                return NONE;
+            }
             int which = counts[sort];
             names[sort * ROW + which] = name;
             counts[sort]++;

@@ -252,6 +252,8 @@ public final class AskTest {
         CoinCircle w = Checks.of("person a rank 0;person b rank 1;person d rank 1;person e rank 5;coin p worth 1 of a knows b d;"
             + "presents rank=1;");
         way(w, 0, 3, 1, 13, 3);
+        CoinCircle v = Checks.of("person a rank 0;person b rank 1;coin p worth 1 of b;");
+        way(v, 0, 0, 10, 0);
     }
 
     private static void best() {

@@ -100,6 +100,12 @@ public final class SocietyTest {
         behind("presents;", 1, 8);
         behind("presents 1;", 1, 10);
         behind("presents 1<2<3;", 1, 12);
+        behind("presents 1<;", 1, 11);
+        behind("presents not;", 1, 12);
+        behind("presents [];", 1, 10);
+        behind("price 1*;", 1, 8);
+        behind("price ();", 1, 7);
+        behind("price;", 1, 5);
         behind("presents (1<2);", 1, 11);
         behind("presents [1];", 1, 11);
         behind("presents all and;", 1, 16);
@@ -267,6 +273,14 @@ public final class SocietyTest {
         c.due("has(5)", x.has(5), 0);
         c.due("has(10)", x.has(10), 0);
         c.due("has(11)", x.has(11), 77);
+        c.due("coin c", Checks.tell(x, ABC), 3);
+        x.days(4);
+        x.present(0, 1);
+        x.pay(0, 1);
+        c.due("met(0, 0)", x.met(0, 0), 4);
+        c.due("told again", Checks.tell(x, "person a rank 1;person b rank 2;coin c worth 5 of a knows b;"), 3);
+        c.due("met(0, 0)", x.met(0, 0), 0);
+        c.due("met(0, 1)", x.met(0, 1), 0);
         c.due("undo()", x.undo(), false);
         c.due("without presents and price", Checks.tell(x, ABC + "goods g worth 7 by b;presents not all;price 3;"), 6);
         c.due("again", Checks.tell(x, ABC + "goods g worth 7 by b;"), 4);
