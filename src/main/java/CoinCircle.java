@@ -200,13 +200,13 @@ public final class CoinCircle {
     }
 
     public int goods(int goods, int person, int what) {
-        if (!society.isThere(GOODS, goods)) {
+        if (!society.isThere(GOODS, goods) || !society.isThere(PERSON, person)) {
             return NONE;
         }
         switch (what) {
             case 0: return society.goodsWorths[goods];
             case 1: return society.sellers[goods];
-            case 2: return society.isThere(PERSON, person) ? now.priceFor(goods, person) : NONE;
+            case 2: return now.priceFor(goods, person);
             default: return NONE;
         }
     }
@@ -687,7 +687,9 @@ public final class CoinCircle {
                 at++;
             }
             if (needsBlank && kind != SIGN && kind != AT_END) {
+                // the wanting blank is told ahead of a letter or digit too many further on
                 kind = NOTHING_KNOWN;
+                place = start;
             }
         }
 

@@ -171,8 +171,12 @@ public final class AskTest {
         c.due("goods(-1, 0, 0)", x.goods(-1, 0, 0), -1);
         c.due("goods(0, 0, 3)", x.goods(0, 0, 3), -1);
         c.due("goods(0, 0, -1)", x.goods(0, 0, -1), -1);
-        c.due("goods(0, 4, 2)", x.goods(0, 4, 2), -1);
-        c.due("goods(0, -1, 2)", x.goods(0, -1, 2), -1);
+        for (int what = 0; what < 3; what++) {
+            c.due("goods(0, 3, " + what + ")", x.goods(0, 3, what), new int[] {8, 1, 9}[what]);
+            c.due("goods(0, 4, " + what + "): no such PERSON", x.goods(0, 4, what), -1);
+            c.due("goods(0, -1, " + what + "): no such PERSON", x.goods(0, -1, what), -1);
+            c.due("goods(2, 0, " + what + "): no such GOODS", x.goods(2, 0, what), -1);
+        }
         CoinCircle y = Checks.of(PEOPLE + "coin p worth 10 of a;coin q worth 1 of a;goods g worth 9 by d;"
             + "price rank*100+holds*10+day;");
         y.days(3);

@@ -90,9 +90,9 @@ final class Model {
             else if (digit(c)) while (e < text.length() && digit(text.charAt(e))) e++;
             else e++;
             word = text.substring(at, e);
-            if (low(c) && word.length() > 6 && !OWN.contains(word)) badAt = at + 6;
+            if (last && from == start && (low(c) || digit(c))) badAt = at;
+            else if (low(c) && word.length() > 6 && !OWN.contains(word)) badAt = at + 6;
             else if (digit(c) && word.length() > 4) badAt = at + 4;
-            else if (last && from == start && (low(c) || digit(c))) badAt = at;
             at = e;
         }
 
@@ -486,10 +486,10 @@ final class Model {
     }
 
     int goods(int g, int p, int what) {
-        if (!isG(g)) return NONE;
+        if (!isG(g) || !isP(p)) return NONE;
         if (what == 0) return soc.goodsWorths.get(g);
         if (what == 1) return soc.sellers.get(g);
-        return what == 2 && isP(p) ? price(g, p) : NONE;
+        return what == 2 ? price(g, p) : NONE;
     }
 
     int spend(int p, int o) {
