@@ -303,14 +303,6 @@ public final class ActTest {
         c.due("letterIs(0)", x.letterIs(0), 0);
     }
 
-    private static int[] withCheck(int... bytes) {
-        int[] all = java.util.Arrays.copyOf(bytes, bytes.length + 1);
-        int sum = 103;
-        for (int b : bytes) sum = (5 * sum + b) % 251;
-        all[bytes.length] = sum;
-        return all;
-    }
-
     private static void bytes(CoinCircle x, int... want) {
         c.due("image()", x.image(), want.length);
         for (int k = 0; k < want.length; k++) c.due("octet(" + k + ")", x.octet(k), want[k]);
@@ -327,16 +319,16 @@ public final class ActTest {
         bytes(x, 0, 0, 65);
         Checks.tell(x, "person a rank 1;person b rank 1;person d rank 1;coin p worth 1 of a knows b;coin q worth 2 of d;snub p d;");
         c.due("octet(2), the latest image()", x.octet(2), 65);
-        bytes(x, withCheck(0, 0, 0, 2, 2, 1, 2, 0, 0, 2));
+        bytes(x, Checks.withCheck(0, 0, 0, 2, 2, 1, 2, 0, 0, 2));
         x.days(5);
         x.pay(0, 1);
         x.days(2);
-        bytes(x, withCheck(0, 7, 1, 4, 4, 1, 2, 0, 0, 9));
+        bytes(x, Checks.withCheck(0, 7, 1, 4, 4, 1, 2, 0, 0, 9));
         x.days(100);
         x.days(93);
-        bytes(x, withCheck(0, 200, 1, 197, 197, 1, 2, 0, 0, 202));
+        bytes(x, Checks.withCheck(0, 200, 1, 197, 197, 1, 2, 0, 0, 202));
         x.days(100);
-        bytes(x, withCheck(1, 44, 1, 202, 202, 1, 2, 0, 0, 202));
+        bytes(x, Checks.withCheck(1, 44, 1, 202, 202, 1, 2, 0, 0, 202));
         x.undo();
         c.due("octet(0) stays", x.octet(0), 1);
         c.due("octet(-1)", x.octet(-1), -1);
@@ -354,7 +346,7 @@ public final class ActTest {
             + "snub p d;fades 50;");
         x.seed(9);
         x.days(1);
-        on(x, true, withCheck(1, 44, 1, 202, 42, 0, 0, 2, 0, 1));
+        on(x, true, Checks.withCheck(1, 44, 1, 202, 42, 0, 0, 2, 0, 1));
         c.due("has(5)", x.has(5), 300);
         c.due("coin(0, 1)", x.coin(0, 1), 1);
         c.due("coin(0, 2)", x.coin(0, 2), 3);
@@ -370,16 +362,16 @@ public final class ActTest {
         c.due("later(0, 0)", x.later(0, 0), 3);
         c.due("later(0, 1)", x.later(0, 1), 2);
         c.due("days(1)", x.days(1), 1);
-        on(x, true, withCheck(0, 0, 0, 2, 0, 0, 2, 1, 1, 2));
-        on(x, true, withCheck(3, 231, 0, 2, 0, 0, 2, 1, 1, 202));
-        on(x, true, withCheck(0, 5, 0, 7, 0, 0, 2, 1, 1, 2));
+        on(x, true, Checks.withCheck(0, 0, 0, 2, 0, 0, 2, 1, 1, 2));
+        on(x, true, Checks.withCheck(3, 231, 0, 2, 0, 0, 2, 1, 1, 202));
+        on(x, true, Checks.withCheck(0, 5, 0, 7, 0, 0, 2, 1, 1, 2));
         x.days(1);
-        int[][] bad = {withCheck(3, 232, 0, 2, 0, 0, 2, 1, 1, 2), withCheck(255, 255, 0, 2, 0, 0, 2, 1, 1, 2),
-            withCheck(0, 5, 3, 2, 2, 2, 2, 1, 1, 2), withCheck(0, 5, 255, 2, 2, 2, 2, 1, 1, 2),
-            withCheck(0, 5, 0, 1, 2, 2, 2, 1, 1, 2), withCheck(0, 5, 0, 0, 2, 2, 2, 1, 1, 2),
-            withCheck(0, 5, 0, 8, 2, 2, 2, 1, 1, 2), withCheck(0, 5, 0, 2, 8, 2, 2, 1, 1, 2),
-            withCheck(3, 1, 0, 203, 2, 2, 2, 1, 1, 2), withCheck(3, 1, 0, 2, 2, 255, 2, 1, 1, 2),
-            withCheck(0, 5, 0, 2, 0, 0, 2, 1, 1), withCheck(0, 5, 0, 2, 0, 0, 2, 1, 1, 2, 0),
+        int[][] bad = {Checks.withCheck(3, 232, 0, 2, 0, 0, 2, 1, 1, 2), Checks.withCheck(255, 255, 0, 2, 0, 0, 2, 1, 1, 2),
+            Checks.withCheck(0, 5, 3, 2, 2, 2, 2, 1, 1, 2), Checks.withCheck(0, 5, 255, 2, 2, 2, 2, 1, 1, 2),
+            Checks.withCheck(0, 5, 0, 1, 2, 2, 2, 1, 1, 2), Checks.withCheck(0, 5, 0, 0, 2, 2, 2, 1, 1, 2),
+            Checks.withCheck(0, 5, 0, 8, 2, 2, 2, 1, 1, 2), Checks.withCheck(0, 5, 0, 2, 8, 2, 2, 1, 1, 2),
+            Checks.withCheck(3, 1, 0, 203, 2, 2, 2, 1, 1, 2), Checks.withCheck(3, 1, 0, 2, 2, 255, 2, 1, 1, 2),
+            Checks.withCheck(0, 5, 0, 2, 0, 0, 2, 1, 1), Checks.withCheck(0, 5, 0, 2, 0, 0, 2, 1, 1, 2, 0),
             {0, 5, 0, 2, 0, 0, 2, 1, 1, 2, 0}, {}};
         for (int[] bytes : bad) {
             on(x, false, bytes);
@@ -390,7 +382,7 @@ public final class ActTest {
         }
         c.due("status(5)", x.status(5), bad.length);
         CoinCircle y = new CoinCircle();
-        on(y, true, withCheck(0, 7));
+        on(y, true, Checks.withCheck(0, 7));
         c.due("has(5)", y.has(5), 7);
         on(y, false, 0, 8, 0);
         c.due("has(5)", y.has(5), 7);

@@ -4,23 +4,8 @@ public final class SocietyTest {
     private static final String AB = "person a rank 1;person b rank 2;";
     private static final String ABC = AB + "coin c worth 5 of a;";
 
-    private static void fault(String text, int kind, int place) {
-        CoinCircle x = new CoinCircle();
-        c.due("society of '" + text + "'", Checks.tell(x, text), -1);
-        c.due("fault(0) of '" + text + "'", x.fault(0), kind);
-        c.due("fault(1) of '" + text + "'", x.fault(1), place);
-        c.due("status(1)", x.status(1), 1);
-    }
-
     /** The FAULT of what stands behind AB, its place counted from there. */
-    private static void behind(String text, int kind, int place) { fault(AB + text, kind, AB.length() + place); }
-
-    private static void fine(String text, int statements) {
-        CoinCircle x = new CoinCircle();
-        c.due("society of '" + text + "'", Checks.tell(x, text), statements);
-        c.due("fault(0) of '" + text + "'", x.fault(0), 0);
-        c.due("fault(1) of '" + text + "'", x.fault(1), -1);
-    }
+    private static void behind(String text, int kind, int place) { c.fault(AB + text, kind, AB.length() + place); }
 
     /** What a SUM of price gives, with goods worth 7 of rank-2 b for rank-1 a, who holds a coin that b knows not. */
     private static void sum(String sum, int want) {
@@ -36,70 +21,70 @@ public final class SocietyTest {
 
     private static void wholeTexts() {
         c.at("promise 4");
-        fine("", 0);
-        fine(" \n ", 0);
-        fine(ABC, 3);
-        fine("\nperson\na rank\n0001 ;person b rank 0;coin c worth 1 of a knows b ;", 3);
-        fine(AB + "presents[all]and not[1<2]or 1=1;price(1)*2;", 4);
-        fine(AB + "presents min(1,2)<max(rank,other);", 3);
-        fine(Checks.many("fades 1;", 80), 80);
-        fine("person abcdef rank 9;coin persom worth 99 of abcdef;goods presen worth 99 by abcdef;fades 99;vogue 100;", 5);
+        c.fine("", 0);
+        c.fine(" \n ", 0);
+        c.fine(ABC, 3);
+        c.fine("\nperson\na rank\n0001 ;person b rank 0;coin c worth 1 of a knows b ;", 3);
+        c.fine(AB + "presents[all]and not[1<2]or 1=1;price(1)*2;", 4);
+        c.fine(AB + "presents min(1,2)<max(rank,other);", 3);
+        c.fine(Checks.many("fades 1;", 80), 80);
+        c.fine("person abcdef rank 9;coin persom worth 99 of abcdef;goods presen worth 99 by abcdef;fades 99;vogue 100;", 5);
         StringBuilder all = new StringBuilder();
         for (int k = 0; k < 10; k++) all.append("person p").append((char) ('a' + k)).append(" rank ").append(k).append(";");
         for (int k = 0; k < 12; k++) all.append("coin c").append((char) ('a' + k)).append(" worth 1 of pa;");
         for (int k = 0; k < 10; k++) all.append("goods g").append((char) ('a' + k)).append(" worth 0 by pj;");
-        fine(all.toString(), 32);
-        fault(all + "person x rank 1;", 6, all.length());
-        fault(all + "coin x worth 1 of pa;", 6, all.length());
-        fault(all + "goods", 6, all.length());
+        c.fine(all.toString(), 32);
+        c.fault(all + "person x rank 1;", 6, all.length());
+        c.fault(all + "coin x worth 1 of pa;", 6, all.length());
+        c.fault(all + "goods", 6, all.length());
     }
 
     private static void firstFault() {
         c.at("fault 1");
-        fault("person", 1, 6);
-        fault("person  ", 1, 8);
-        fault("person a rank 1", 1, 15);
-        fault("pers a", 1, 0);
-        fault("a", 1, 0);
-        fault(";", 1, 0);
-        fault("12", 1, 0);
-        fault("fades 1;;", 1, 8);
-        fault("fades 1,", 1, 7);
-        fault("Person a rank 1;", 1, 0);
-        fault("person A rank 1;", 1, 7);
-        fault("person \u00e9 rank 1;", 1, 7);
-        fault("person\ta rank 1;", 1, 6);
-        fault("person 1 rank 1;", 1, 7);
-        fault("person rank rank 1;", 1, 7);
-        fault("person max rank 1;", 1, 7);
-        fault("person a worth 1;", 1, 9);
-        fault("person a b;", 1, 9);
-        fault("person a rank b;", 1, 14);
-        fault("person a rank -1;", 1, 14);
-        fault("person abcdefg rank 1;", 1, 13);
-        fault("abcdefghij", 1, 6);
-        fault("presentsx", 1, 6);
-        fault("persons a", 1, 6);
-        fault("12345", 1, 4);
-        fault("person 12345", 1, 11);
-        fault("person a rank 12345;", 1, 18);
-        fault("person a rank 00001;", 1, 18);
-        fault("person a rank 1 12345", 1, 20);
-        fault("person a rank 1 abcdefg", 1, 22);
-        fault("person a rank1;", 1, 13);
-        fault("fades 1a", 1, 7);
-        fault("person a1 rank 1;", 1, 8);
+        c.fault("person", 1, 6);
+        c.fault("person  ", 1, 8);
+        c.fault("person a rank 1", 1, 15);
+        c.fault("pers a", 1, 0);
+        c.fault("a", 1, 0);
+        c.fault(";", 1, 0);
+        c.fault("12", 1, 0);
+        c.fault("fades 1;;", 1, 8);
+        c.fault("fades 1,", 1, 7);
+        c.fault("Person a rank 1;", 1, 0);
+        c.fault("person A rank 1;", 1, 7);
+        c.fault("person \u00e9 rank 1;", 1, 7);
+        c.fault("person\ta rank 1;", 1, 6);
+        c.fault("person 1 rank 1;", 1, 7);
+        c.fault("person rank rank 1;", 1, 7);
+        c.fault("person max rank 1;", 1, 7);
+        c.fault("person a worth 1;", 1, 9);
+        c.fault("person a b;", 1, 9);
+        c.fault("person a rank b;", 1, 14);
+        c.fault("person a rank -1;", 1, 14);
+        c.fault("person abcdefg rank 1;", 1, 13);
+        c.fault("abcdefghij", 1, 6);
+        c.fault("presentsx", 1, 6);
+        c.fault("persons a", 1, 6);
+        c.fault("12345", 1, 4);
+        c.fault("person 12345", 1, 11);
+        c.fault("person a rank 12345;", 1, 18);
+        c.fault("person a rank 00001;", 1, 18);
+        c.fault("person a rank 1 12345", 1, 20);
+        c.fault("person a rank 1 abcdefg", 1, 22);
+        c.fault("person a rank1;", 1, 13);
+        c.fault("fades 1a", 1, 7);
+        c.fault("person a1 rank 1;", 1, 8);
         c.at("fault 1, a blank that is wanting");
-        fault("person a rank 1pperson", 1, 15);
-        fault("person a rank 1abcdefg", 1, 15);
-        fault("person a rank 1presents", 1, 15);
-        fault("fades 1abcdefg", 1, 7);
-        fault("fades 1vogue 2;", 1, 7);
-        fault("person a12345 rank 1;", 1, 8);
-        fault("person a rank12345;", 1, 13);
-        fault("person a1abcdefg", 1, 8);
-        fault("fades 12345abcdefg", 1, 10);
-        fault("person abcdefg1", 1, 13);
+        c.fault("person a rank 1pperson", 1, 15);
+        c.fault("person a rank 1abcdefg", 1, 15);
+        c.fault("person a rank 1presents", 1, 15);
+        c.fault("fades 1abcdefg", 1, 7);
+        c.fault("fades 1vogue 2;", 1, 7);
+        c.fault("person a12345 rank 1;", 1, 8);
+        c.fault("person a rank12345;", 1, 13);
+        c.fault("person a1abcdefg", 1, 8);
+        c.fault("fades 12345abcdefg", 1, 10);
+        c.fault("person abcdefg1", 1, 13);
         behind("presents 1<2and all;", 1, 12);
         behind("presents 1<2sevenab", 1, 12);
         behind("price worth12345", 1, 11);
@@ -148,11 +133,11 @@ public final class SocietyTest {
     private static void nameFaults() {
         c.at("fault 2");
         behind("person a rank 1;", 2, 7);
-        fault(ABC + "person c rank 1;", 2, ABC.length() + 7);
-        fault(ABC + "coin c worth 1 of a;", 2, ABC.length() + 5);
+        c.fault(ABC + "person c rank 1;", 2, ABC.length() + 7);
+        c.fault(ABC + "coin c worth 1 of a;", 2, ABC.length() + 5);
         behind("coin b worth 1 of a;", 2, 5);
         behind("goods a 1", 2, 6);
-        fault(AB + "goods g worth 1 by a;person g rank 1;", 2, AB.length() + 28);
+        c.fault(AB + "goods g worth 1 by a;person g rank 1;", 2, AB.length() + 28);
         c.at("fault 3");
         behind("coin c worth 1 of c;", 3, 18);
         behind("coin c worth 1 of x;", 3, 18);
@@ -162,49 +147,49 @@ public final class SocietyTest {
         behind("coin c worth 1 of a knows b c;", 3, 28);
         behind("goods g worth 1 by g;", 3, 19);
         behind("snub a b;", 3, 5);
-        fault(ABC + "snub c c;", 3, ABC.length() + 7);
-        fault(ABC + "snub c a;", 3, ABC.length() + 7);
-        fault(ABC + "snub c b;snub c b;", 3, ABC.length() + 16);
+        c.fault(ABC + "snub c c;", 3, ABC.length() + 7);
+        c.fault(ABC + "snub c a;", 3, ABC.length() + 7);
+        c.fault(ABC + "snub c b;snub c b;", 3, ABC.length() + 16);
         behind("coin c worth 1 of a knows b;snub c b;", 3, 35);
-        fault("coin c worth 1 of a;person a rank 1;", 3, 18);
+        c.fault("coin c worth 1 of a;person a rank 1;", 3, 18);
     }
 
     private static void numberFaults() {
         c.at("fault 4");
-        fault("person a rank 10;", 4, 14);
+        c.fault("person a rank 10;", 4, 14);
         behind("coin c worth 0 of a;", 4, 13);
         behind("coin c worth 100 of", 4, 13);
         behind("goods g worth 100 by a;", 4, 14);
-        fault("fades 100", 4, 6);
-        fault("vogue 101", 4, 6);
-        fine("vogue 0;fades 0;vogue 100;fades 99;", 4);
-        fine(AB + "goods g worth 0 by a;price 9999;", 4);
+        c.fault("fades 100", 4, 6);
+        c.fault("vogue 101", 4, 6);
+        c.fine("vogue 0;fades 0;vogue 100;fades 99;", 4);
+        c.fine(AB + "goods g worth 0 by a;price 9999;", 4);
     }
 
     private static void deepFaults() {
         c.at("fault 5");
         String seven = "not [ not [ not [ not ";
-        fine("presents " + seven + "all]]];", 1);
-        fault("presents " + seven + "not all]]];", 5, 9 + seven.length());
-        fault("presents " + seven + "[all]]]];", 5, 9 + seven.length());
-        fault("presents " + seven + "(1)=1]]];", 5, 9 + seven.length());
-        fault("presents " + seven + "min(1,2)=1]]];", 5, 9 + seven.length() + 3);
-        fine("price ((((((min(1,2)))))));", 1);
-        fault("price (((((((min(1,2))))))));", 5, 16);
-        fine("presents not not not not not not not all and not all;", 1);
-        fault("presents not not not not not not not all and not not not not not not not not all;", 5, 73);
-        fine("presents not 1=1 and not 1=1 and not 1=1 and not 1=1 and not 1=1 and not 1=1 and not 1=1 and not 1=1;", 1);
-        fine("price (1)+(1)+(1)+(1)+(1)+(1)+(1)+(1)+(1);", 1);
-        fine("price min(1,2)+max(1,2)+min(1,2)+max(1,2)+min(1,2)+max(1,2)+min(1,2)+max(1,2);", 1);
+        c.fine("presents " + seven + "all]]];", 1);
+        c.fault("presents " + seven + "not all]]];", 5, 9 + seven.length());
+        c.fault("presents " + seven + "[all]]]];", 5, 9 + seven.length());
+        c.fault("presents " + seven + "(1)=1]]];", 5, 9 + seven.length());
+        c.fault("presents " + seven + "min(1,2)=1]]];", 5, 9 + seven.length() + 3);
+        c.fine("price ((((((min(1,2)))))));", 1);
+        c.fault("price (((((((min(1,2))))))));", 5, 16);
+        c.fine("presents not not not not not not not all and not all;", 1);
+        c.fault("presents not not not not not not not all and not not not not not not not not all;", 5, 73);
+        c.fine("presents not 1=1 and not 1=1 and not 1=1 and not 1=1 and not 1=1 and not 1=1 and not 1=1 and not 1=1;", 1);
+        c.fine("price (1)+(1)+(1)+(1)+(1)+(1)+(1)+(1)+(1);", 1);
+        c.fine("price min(1,2)+max(1,2)+min(1,2)+max(1,2)+min(1,2)+max(1,2)+min(1,2)+max(1,2);", 1);
     }
 
     private static void tooMany() {
         c.at("fault 6");
-        fault("presents all;presents", 6, 13);
-        fault("price 1; price 1;", 6, 9);
-        fault(Checks.many("fades 1;", 81), 6, 640);
-        fault(Checks.many("vogue 1;", 80) + " person", 6, 641);
-        fault(Checks.many("vogue 1;", 79) + "person", 1, 638);
+        c.fault("presents all;presents", 6, 13);
+        c.fault("price 1; price 1;", 6, 9);
+        c.fault(Checks.many("fades 1;", 81), 6, 640);
+        c.fault(Checks.many("vogue 1;", 80) + " person", 6, 641);
+        c.fault(Checks.many("vogue 1;", 79) + "person", 1, 638);
     }
 
     private static void sums() {
