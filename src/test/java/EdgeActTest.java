@@ -129,7 +129,8 @@ public final class EdgeActTest {
 
     private static final String SHOP = PEOPLE + "coin p worth 20 of a knows b;coin q worth 1 of a;coin r worth 6 of b knows a;"
         + "coin s worth 4 of b knows a;coin t worth 9 of b;coin u worth 5 of d knows a b;goods g worth 10 by b;goods h worth 20 by b;"
-        + "goods i worth 21 by b;goods j worth 13 by b;goods k worth 0 by b;goods l worth 11 by b;goods m worth 1 by b;goods n worth 5 by b;goods o worth 6 by b;";
+        + "goods i worth 21 by b;goods j worth 13 by b;goods k worth 0 by b;goods l worth 11 by b;"
+        + "goods m worth 1 by b;goods n worth 5 by b;goods o worth 6 by b;";
 
     /** Promise 16: "NONE, refused (3), when it can't be"; terms II: "COINS that the buyer holds, all of which KNOW the seller". */
     private static void buyRefused() {
@@ -199,7 +200,8 @@ public final class EdgeActTest {
         x.present(4, 0);
         c.due("9, which KNOWS the buyer", x.buy(0, 5, 1), 16);
         c.due("4 and 6", Checks.of(SHOP).buy(0, 0, 1), 12);
-        String text = PEOPLE + "coin p worth 4 of b knows a;coin q worth 6 of b knows a;coin r worth 20 of a knows b;goods g worth 10 by b;goods h worth 16 by b;";
+        String text = PEOPLE + "coin p worth 4 of b knows a;coin q worth 6 of b knows a;coin r worth 20 of a knows b;"
+            + "goods g worth 10 by b;goods h worth 16 by b;";
         c.due("the first COINS", Checks.of(text).buy(0, 0, 4), 3);
         c.due("the first COIN", Checks.of(text).buy(0, 1, 4), 1);
         StringBuilder many = new StringBuilder(PEOPLE + "coin x worth 99 of a knows b;goods g worth 88 by b;");

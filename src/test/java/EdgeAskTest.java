@@ -93,10 +93,7 @@ public final class EdgeAskTest {
     private static void personAndCoinOthers() {
         c.at("promise 8, none such, others");
         for (int none : NONE_SUCH) {
-            for (int what = 0; what < 6; what++) {
-                int w = what;
-                c.due("person(" + none + ", " + what + ")", Checks.of(TOWN).person(none, w), -1);
-            }
+            for (int what = 0; what < 6; what++) c.due("person(" + none + ", " + what + ")", Checks.of(TOWN).person(none, what), -1);
             c.asked("person(" + none + ", 0)", Checks.of(TOWN), -1, x -> x.person(none, 0));
         }
         c.asked("behind the last one", Checks.of(TOWN), -1, x -> x.person(5, 0));
