@@ -68,6 +68,9 @@ public final class LanguageTest {
             int end = k;
             while (end < lines.length && !lines[end].equals(m.group(1) + "}")) end++;
             must(end - k < 60, "11: the length of " + m.group(2));
+            // all that an object needs is made in constructors and fields: no run of calls can fill the room
+            boolean makes = !m.group(2).equals("CoinCircle") && Arrays.asList(lines).subList(k, end).toString().contains("new ");
+            must(!makes, "12: " + m.group(2) + " makes an object or an array");
         }
         must(face.size() == 33, "1: the face has a constructor and 32 methods, not " + face.size());
         for (String name : others) must(!face.contains(name), "1: a method of its own is named " + name);
