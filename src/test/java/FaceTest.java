@@ -1,31 +1,33 @@
-import java.io.IOException;
 import java.lang.reflect.Constructor;
 import java.lang.reflect.Field;
 import java.lang.reflect.Method;
 import java.lang.reflect.Modifier;
-import java.nio.charset.StandardCharsets;
-import java.nio.file.Files;
-import java.nio.file.Path;
 import java.util.Arrays;
 import java.util.List;
 import java.util.TreeSet;
-import java.util.regex.Matcher;
-import java.util.regex.Pattern;
 
-/** "The public face" as ../shared/DOC.md tells it, and no other member that can be seen. Run from the project's folder. */
+/** "The public face" as the document tells it, and no other member that can be seen. */
 public final class FaceTest {
     private static final Checks c = new Checks();
     private static final List<Class<?>> CONSTANTS = Arrays.asList(int.class, long.class, boolean.class, char.class, String.class,
         int[].class, long[].class, char[].class, byte[].class);
 
-    /** What stands in the document's block: "int feed(int, int, int, int, int)". */
-    private static TreeSet<String> told() throws IOException {
-        String doc = Files.readString(Path.of("../shared/DOC.md"), StandardCharsets.ISO_8859_1);
-        int from = doc.indexOf("```java");
-        String block = doc.substring(from, doc.indexOf("```", from + 3));
+    private static final String BLOCK = "int feed(int a, int b, int c, int d, int e); boolean end(int n); int society(); "
+        + "int fault(int what); int has(int what); int letter(int kind, int which, int k); "
+        + "int person(int person, int what); int coin(int coin, int what); int met(int coin, int person); "
+        + "int may(int coin, int person); int goods(int goods, int person, int what); "
+        + "int spend(int person, int other); int present(int coin, int person); "
+        + "boolean pay(int coin, int person); int buy(int person, int goods, int coins); int tea(int people); "
+        + "int days(int n); int calls(int n); boolean undo(); boolean seed(int seed); "
+        + "int introduce(int person, int other, int sum, int what); int comes(int coin, int person, int k); "
+        + "int best(int n, int what); int letters(); int letterIs(int k); int fair(int person, int what); "
+        + "int later(int coin, int n); int useless(int what); int image(); int octet(int k); boolean on(); "
+        + "int status(int what);";
+
+    /** What stands in the document's block, without the names of what is given: "int feed(int, int, int, int, int)". */
+    private static TreeSet<String> told() {
         TreeSet<String> all = new TreeSet<>();
-        Matcher m = Pattern.compile("public (\\w+) (\\w+)\\(([^)]*)\\);").matcher(block);
-        while (m.find()) all.add(m.group(1) + " " + m.group(2) + "(" + m.group(3).replaceAll("(\\w+) \\w+", "$1") + ")");
+        for (String method : BLOCK.split("; ?")) all.add(method.replaceAll("int \\w+([,)])", "int$1"));
         return all;
     }
 
@@ -35,7 +37,7 @@ public final class FaceTest {
         return s.append(")").toString();
     }
 
-    private static void methods() throws IOException {
+    private static void methods() {
         c.at("the public face, methods");
         TreeSet<String> seen = new TreeSet<>();
         TreeSet<String> names = new TreeSet<>();
@@ -93,7 +95,7 @@ public final class FaceTest {
         for (Class<?> other : type.getDeclaredClasses()) inside(other);
     }
 
-    public static void main(String[] args) throws IOException {
+    public static void main(String[] args) {
         methods();
         theRest();
         inside(CoinCircle.class);

@@ -107,7 +107,7 @@ public final class ReadmeTest {
         for (Class<?> type : CoinCircle.class.getDeclaredClasses()) inside.add(type.getSimpleName());
         String built = readme.substring(readme.indexOf("## How it is built"), readme.indexOf("## How to run its tests"));
         c.same("the classes inside", found("`([A-Z]\\w+)`", built).toString(), inside.toString());
-        for (String file : found("`((?:src|\\.ci|\\.\\.)/[^`]*)`", readme)) c.due(file + " is there", Files.exists(Path.of(file)), true);
+        for (String file : found("`((?:src|\\.ci)/[^`]*)`", readme)) c.due(file + " is there", Files.exists(Path.of(file)), true);
         c.due(".ci/run can be run", Files.isExecutable(Path.of(".ci/run")), true);
     }
 
